@@ -28,8 +28,7 @@ public final class BentPicture {
     private static final int TRIANGLE_ROW = 64;
 
     private final Net net;
-    private final Cover byPlaces;
-    private final Cover byHomes;
+    private final Cover cover;
     private final Spot spot;
     private final int[] values;
     private final int[] near;
@@ -39,8 +38,7 @@ public final class BentPicture {
 
     public BentPicture() {
         net = new Net();
-        byPlaces = new Cover();
-        byHomes = new Cover();
+        cover = new Cover();
         spot = new Spot();
         values = new int[MOST_DOTS];
         near = new int[MOST_DOTS];
@@ -194,7 +192,7 @@ public final class BentPicture {
                 return net.areaOf(net.places, triangle);
             case 5:
                 chart();
-                return byPlaces.dotsIn(triangle, net.dots());
+                return cover.dotsIn(triangle, net.dots());
             default:
                 return NONE;
         }
@@ -244,7 +242,7 @@ public final class BentPicture {
                 return sumOfTakenValues();
             case 9:
                 chart();
-                return byPlaces.dotsOfMany(net.dots());
+                return cover.dotsOfMany(net.dots());
             default:
                 return NONE;
         }
@@ -256,8 +254,10 @@ public final class BentPicture {
         if (!net.isDot(x, y)) {
             return NONE;
         }
+        if (home) {
+            return net.leastHolder(net.homes, x, y);
+        }
         chart();
-        Cover cover = home ? byHomes : byPlaces;
         return cover.lies[net.dotNumber(x, y)];
     }
 
@@ -265,8 +265,7 @@ public final class BentPicture {
         if (!net.isDot(x, y)) {
             return NONE;
         }
-        chart();
-        spot.measure(net, net.places, byPlaces, x, y);
+        measureByPlaces(x, y);
         spot.shortenShares();
         switch (what) {
             case 0:
@@ -286,8 +285,7 @@ public final class BentPicture {
         if (!net.isDot(x, y)) {
             return NONE;
         }
-        chart();
-        spot.measure(net, net.places, byPlaces, x, y);
+        measureByPlaces(x, y);
         spot.mix(net, net.homes);
         return spot.told(what);
     }
@@ -296,8 +294,7 @@ public final class BentPicture {
         if (!net.isDot(x, y)) {
             return NONE;
         }
-        chart();
-        spot.measure(net, net.homes, byHomes, x, y);
+        spot.measure(net, net.homes, net.leastHolder(net.homes, x, y), x, y);
         spot.mix(net, net.places);
         return spot.told(what);
     }
@@ -314,8 +311,7 @@ public final class BentPicture {
         if (!net.isDot(x, y) || what < 0 || what > 1) {
             return NONE;
         }
-        chart();
-        spot.measure(net, net.places, byPlaces, x, y);
+        measureByPlaces(x, y);
         spot.mix(net, net.homes);
         int above = blendAbove();
         int below = spot.below * spot.below;
@@ -443,16 +439,21 @@ public final class BentPicture {
         if (charted) {
             return;
         }
-        byPlaces.fill(net, net.places);
-        byHomes.fill(net, net.homes);
+        cover.fill(net);
         for (int y = 0; y < net.h; y++) {
             for (int x = 0; x < net.w; x++) {
-                spot.measure(net, net.places, byPlaces, x, y);
+                int dot = net.dotNumber(x, y);
+                spot.measure(net, net.places, cover.lies[dot], x, y);
                 spot.mix(net, net.homes);
-                near[net.dotNumber(x, y)] = dotNearSpot();
+                near[dot] = dotNearSpot();
             }
         }
         charted = true;
+    }
+
+    private void measureByPlaces(int x, int y) {
+        chart();
+        spot.measure(net, net.places, cover.lies[net.dotNumber(x, y)], x, y);
     }
 
     private int dotNearSpot() {
@@ -533,10 +534,6 @@ public final class BentPicture {
         return divisor > 1 ? number / divisor : number;
     }
 
-    private static int areaOfPoints(int ax, int ay, int bx, int by, int cx, int cy) {
-        return (bx - ax) * (cy - ay) - (cx - ax) * (by - ay);
-    }
-
     /** A point for each knot: the homes, the places, or those on the way. */
     private static final class Points {
         final int[] xs = new int[KNOT_ROW];
@@ -554,11 +551,11 @@ public final class BentPicture {
         }
 
         int area(int a, int b, int c) {
-            return areaOfPoints(xs[a], ys[a], xs[b], ys[b], xs[c], ys[c]);
+            return areaWith(xs[a], ys[a], b, c);
         }
 
         int areaWith(int x, int y, int b, int c) {
-            return areaOfPoints(x, y, xs[b], ys[b], xs[c], ys[c]);
+            return (xs[b] - x) * (ys[c] - y) - (xs[c] - x) * (ys[b] - y);
         }
 
         int squareOfLength(int a, int b) {
@@ -752,7 +749,16 @@ public final class BentPicture {
                 && points.areaWith(x, y, a, b) >= 0;
         }
 
-        /** Each triangle on a rim without holes adds as many edges as Euler says. */
+        int leastHolder(Points points, int x, int y) {
+            for (int t = 0; t < triangles.held; t++) {
+                if (holds(points, t, x, y)) {
+                    return t;
+                }
+            }
+            return NONE;
+        }
+
+        /** The net has no hole, so Euler's rule tells its edges. */
         int edges() {
             return knots + triangles.held - 1;
         }
@@ -1013,16 +1019,16 @@ public final class BentPicture {
         }
     }
 
-    /** In which triangle each dot lies, by homes or by places. */
+    /** In which triangle each dot of the bent picture lies. */
     private static final class Cover {
         final int[] lies = new int[MOST_DOTS];
         final int[] holders = new int[MOST_DOTS];
 
-        void fill(Net net, Points points) {
+        void fill(Net net) {
             Arrays.fill(lies, NONE);
             Arrays.fill(holders, 0);
             for (int t = 0; t < net.triangles.held; t++) {
-                lay(net, points, t);
+                lay(net, net.places, t);
             }
         }
 
@@ -1082,7 +1088,7 @@ public final class BentPicture {
 
     /** A dot's shares in its triangle, and the fractions that they make of other points. */
     private static final class Spot {
-        int triangle = NONE;
+        int lying = NONE;
         int first = 0;
         int second = 0;
         int third = 0;
@@ -1091,14 +1097,14 @@ public final class BentPicture {
         int y = 0;
         int below = 1;
 
-        void measure(Net net, Points points, Cover cover, int dotX, int dotY) {
-            triangle = cover.lies[net.dotNumber(dotX, dotY)];
-            if (!net.triangles.isOne(triangle)) {
+        void measure(Net net, Points points, int t, int dotX, int dotY) {
+            if (!net.triangles.isOne(t)) {
                 return;
             }
-            int a = net.triangles.first(triangle);
-            int b = net.triangles.second(triangle);
-            int c = net.triangles.third(triangle);
+            lying = t;
+            int a = net.triangles.first(t);
+            int b = net.triangles.second(t);
+            int c = net.triangles.third(t);
             first = points.areaWith(dotX, dotY, b, c);
             second = points.areaWith(dotX, dotY, c, a);
             third = points.areaWith(dotX, dotY, a, b);
@@ -1114,12 +1120,12 @@ public final class BentPicture {
         }
 
         void mix(Net net, Points points) {
-            if (!net.triangles.isOne(triangle)) {
+            if (!net.triangles.isOne(lying)) {
                 return;
             }
-            int a = net.triangles.first(triangle);
-            int b = net.triangles.second(triangle);
-            int c = net.triangles.third(triangle);
+            int a = net.triangles.first(lying);
+            int b = net.triangles.second(lying);
+            int c = net.triangles.third(lying);
             x = first * points.xs[a] + second * points.xs[b] + third * points.xs[c];
             y = first * points.ys[a] + second * points.ys[b] + third * points.ys[c];
             int divisor = divisorOf(divisorOf(x, y), whole);

@@ -24,6 +24,8 @@ final class ModelTest {
             lookAtTheNet();
         }
         dense();
+        swirls();
+        fullNets();
         CHECK.end();
     }
 
@@ -125,10 +127,16 @@ final class ModelTest {
         same("insert " + hx + " " + hy + " " + px + " " + py, x.insert(hx, hy, px, py), m.insert(hx, hy, px, py));
     }
 
-    private static void moveSomewhere(int k) {
+    private static void moveSomewhere(int any) {
+        int free = m.knots.size() - 4;
+        int k = free > 0 && below(6) != 0 ? 4 + below(free) : any;
         boolean known = k >= 0 && k < m.knots.size();
-        int px = known && below(4) != 0 ? around(m.knots.get(k)[2]) : number(m.w);
-        int py = known && below(4) != 0 ? around(m.knots.get(k)[3]) : number(m.h);
+        int px = known && below(6) != 0 ? around(m.knots.get(k)[2]) : number(m.w);
+        int py = known && below(6) != 0 ? around(m.knots.get(k)[3]) : number(m.h);
+        if (known && x.knot(k, 5) == 1 && below(4) != 0) {
+            px = m.knots.get(k)[0] % (m.w - 1) == 0 ? m.knots.get(k)[0] : px;
+            py = m.knots.get(k)[1] % (m.h - 1) == 0 ? m.knots.get(k)[1] : py;
+        }
         same("move " + k + " " + px + " " + py, x.move(k, px, py), m.move(k, px, py));
     }
 
@@ -313,6 +321,76 @@ final class ModelTest {
             everyDot();
             everyKnot();
         }
+    }
+
+    /** The knots within go round the middle, so far that triangles fold on the way though none is a fold. */
+    private static void swirls() {
+        int bent = 0;
+        for (int i = 0; i < 60 && CHECK.wrong() < 20; i++) {
+            begin(20_000 + i);
+            int w = 9 + below(12);
+            int h = 9 + below(12);
+            same("size", x.size(w, h) ? 1 : 0, m.size(w, h) ? 1 : 0);
+            int knots = 4 + below(14);
+            for (int j = 0; j < 40 && m.knots.size() < knots + 4; j++) {
+                int hx = 1 + below(w - 2);
+                int hy = 1 + below(h - 2);
+                same("insert", x.insert(hx, hy, hx, hy), m.insert(hx, hy, hx, hy));
+            }
+            if (below(2) == 0) {
+                same("insert on a side", x.insert(1, 0, 1, 0), m.insert(1, 0, 1, 0));
+                same("insert on a side", x.insert(0, 2, 0, 2), m.insert(0, 2, 0, 2));
+            }
+            for (int j = 0; j < 300; j++) {
+                goRound(4 + below(m.knots.size() - 4));
+            }
+            for (int t = 0; t <= 8; t++) {
+                same("bent " + t, x.bent(t), m.bent(t));
+                bent += x.bent(t) > 0 ? 1 : 0;
+            }
+            lookAtTheNet();
+        }
+        CHECK.due("a swirl folds on the way", bent > 10, true);
+    }
+
+    private static void goRound(int k) {
+        int px = m.knots.get(k)[2];
+        int py = m.knots.get(k)[3];
+        int dx = Integer.signum(m.h - 1 - 2 * py) * below(3) + below(3) - 1;
+        int dy = Integer.signum(2 * px - (m.w - 1)) * below(3) + below(3) - 1;
+        same("move", x.move(k, px + dx, py + dy), m.move(k, px + dx, py + dy));
+    }
+
+    /** Nets of 30 knots, and what is asked of them then. */
+    private static void fullNets() {
+        int full = 0;
+        for (int i = 0; i < 40 && CHECK.wrong() < 20; i++) {
+            begin(30_000 + i);
+            int w = 8 + below(13);
+            int h = 8 + below(13);
+            same("size", x.size(w, h) ? 1 : 0, m.size(w, h) ? 1 : 0);
+            same("weave", x.weave(i), m.weave(i));
+            for (int j = 0; j < 150 && m.knots.size() < 30; j++) {
+                if (below(3) == 0) {
+                    moveSomewhere(4);
+                } else {
+                    insertSomewhere();
+                }
+            }
+            full += m.knots.size() == 30 ? 1 : 0;
+            for (int j = 0; j < 30; j++) {
+                insertSomewhere();
+                turnSome(4);
+                moveSomewhere(4);
+            }
+            lookAtTheNet();
+            for (int j = 0; j < 60; j++) {
+                act();
+                ask();
+            }
+            lookAtTheNet();
+        }
+        CHECK.due("nets of 30 knots", full > 20, true);
     }
 
     private static void everyDot() {
