@@ -26,9 +26,9 @@ final class ActsTermsTest {
     private static void becomes(String what, Supplier<BentPicture> scene, ToIntFunction<BentPicture> act, int answer,
             int... net) {
         BentPicture x = scene.get();
-        x.nearest(0, 0);
         doc.due(what, act.applyAsInt(x), answer);
         doc.all(what + ": triangles", Scene.net(x), net);
+        doc.isFresh(what, scene, act);
     }
 
     private static void insert() {
@@ -90,6 +90,8 @@ final class ActsTermsTest {
         doc.due("where it comes from is another one", x.from(4, 2, 0) * 10 + x.from(4, 2, 1), 43);
         doc.due("back", x.move(8, 4, 3), 0);
         doc.all("back", Scene.homeAndPlace(x, 8), 4, 3, 4, 3);
+        doc.isFresh("within", Scene::sides, p -> p.move(8, 4, 2));
+        doc.isFresh("on a side", Scene::sides, p -> p.move(4, 5, 0));
     }
 
     private static void turn() {
@@ -138,8 +140,33 @@ final class ActsTermsTest {
             doc.all("all behind it come up", Scene.homeAndPlace(rim, k), homeX, homeY, homeX, homeY);
         }
         doc.due("29 is none", rim.knot(29, 0), -1);
-        doc.due("a corner of three triangles does not go", Scene.middle().out(0), 2);
         outWithOthersBent();
+        outWithNeighboursBehind();
+    }
+
+    /** 9 by 9, the knots 4, 5, 6 within have a triangle of their own; 4 is of that, of 0, 5, 4 and of 0, 4, 6 alone. */
+    private static BentPicture inner() {
+        BentPicture x = Scene.sized(9, 9);
+        x.insert(3, 4, 3, 4);
+        x.insert(7, 3, 7, 3);
+        x.insert(2, 7, 2, 7);
+        x.turn(0, 2);
+        x.turn(2, 4);
+        x.turn(3, 4);
+        return x;
+    }
+
+    private static BentPicture movedInner() {
+        BentPicture x = inner();
+        x.move(5, 6, 3);
+        return x;
+    }
+
+    private static void outWithNeighboursBehind() {
+        doc.all("a triangle of 4, 5, 6", Scene.net(inner()),
+            0, 1, 5, 0, 4, 6, 0, 5, 4, 0, 6, 3, 1, 2, 5, 2, 3, 6, 2, 6, 5, 4, 5, 6);
+        becomes("its neighbours come up", ActsTermsTest::inner, x -> x.out(4), 0,
+            0, 1, 4, 0, 4, 5, 0, 5, 3, 1, 2, 4, 2, 3, 5, 2, 5, 4);
     }
 
     /** A knot that has been moved goes too: the triangle that is left has an area, by homes and by places. */
@@ -171,6 +198,7 @@ final class ActsTermsTest {
         }
         doc.all("each dot comes from itself", Scene.nearest(x), each);
         doc.due("the values stay", x.value(4, 3, false), Scene.woven(4, 3, 5));
+        doc.isFresh("straight", Scene::sides, BentPicture::straight);
     }
 
     private static void carry() {
@@ -194,6 +222,8 @@ final class ActsTermsTest {
         twist.carry();
         doc.due("and back", twist.value(1, 2, false), Scene.woven(1, 2, 0));
         doc.all("the net stays", Scene.homeAndPlace(twist, 4), 1, 1, 3, 2);
+        doc.isFresh("twist", Scene::twist, BentPicture::carry);
+        doc.isFresh("400 dots", Scene::thirty, BentPicture::carry);
     }
 
     private static void refused() {
@@ -278,6 +308,11 @@ final class ActsTermsTest {
         doc.stays("4: move to the other corner", Scene::sides, x -> x.move(5, 6, 5), 4);
         doc.stays("4: move onto the edge across", Scene::sides, x -> x.move(4, 1, 0), 4);
         doc.stays("4: move onto the place of a knot", Scene::sides, x -> x.move(8, 3, 0), 4);
+        doc.due("up to an edge of the knots behind it", inner().move(4, 4, 4), 0);
+        doc.stays("4: move over it", ActsTermsTest::inner, x -> x.move(4, 5, 5), 4);
+        doc.due("another edge", inner().move(5, 6, 3), 0);
+        doc.due("4: move onto it", movedInner().move(4, 4, 5), 4);
+        doc.due("up to it", movedInner().move(4, 4, 4), 0);
         doc.due("30 knots are no reason", Scene.thirty().move(29, 1, 18), 0);
     }
 

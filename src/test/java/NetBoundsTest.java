@@ -145,6 +145,7 @@ final class NetBoundsTest {
     private static void carry() {
         doc.says("Promise 11", "CARRY: how many DOTS have another VALUE by it.");
         doc.stays("straight", Scene::straight, BentPicture::carry, 0);
+        doc.stays("straight, 400 dots", Scene::thirty, BentPicture::carry, 0);
         BentPicture even = Scene.middle();
         even.size(5, 5);
         even.insert(2, 2, 3, 2);
@@ -318,6 +319,10 @@ final class NetBoundsTest {
         doc.due("sides: dots of more than one triangle", sides[9], 8);
         doc.all("30 knots within", Arrays.copyOf(counts(Scene.thirty()), 5), 20, 20, 30, 54, 83);
         doc.all("30 knots on the sides", Arrays.copyOf(counts(Scene.rim()), 5), 20, 20, 30, 28, 57);
+        BentPicture turned = Scene.first();
+        turned.turn(0, 2);
+        doc.due("turned: to turn", turned.count(5), 1);
+        doc.due("values that dots take, asked first", Scene.middle().count(8), takenInMiddle());
         BentPicture x = Scene.middle();
         doc.due("middle: to turn", x.count(5), 0);
         doc.due("middle: dots of more than one triangle", x.count(9), 5);
@@ -334,6 +339,14 @@ final class NetBoundsTest {
         doc.due("no dot takes that one", x.count(8), 45);
         doc.due("the greatest that all can be", full().count(7), 6000);
         doc.due("the greatest that all can take", full().count(8), 6000);
+    }
+
+    private static int takenInMiddle() {
+        int sum = 0;
+        for (int d : Scene.nearest(Scene.middle())) {
+            sum += Scene.woven(d % 5, d / 5, 0);
+        }
+        return sum;
     }
 
     private static BentPicture full() {

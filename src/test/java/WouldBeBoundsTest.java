@@ -151,6 +151,28 @@ final class WouldBeBoundsTest {
         return x;
     }
 
+    /** Its triangle 2, 5, 4 has an area of (3 t less 8) squared by 64 on the way: 1 at t 3, never 0. */
+    private static BentPicture thinOnTheWay() {
+        BentPicture x = Scene.sized(7, 9);
+        x.insert(1, 0, 1, 0);
+        x.insert(4, 5, 4, 5);
+        x.move(4, 4, 0);
+        x.move(5, 4, 2);
+        return x;
+    }
+
+    /** Its triangle 0 (of the knots 0, 4, 7) has an area of 8, -2, 0, 14 by 64 at t 2 to 5. */
+    private static BentPicture firstFoldedOnTheWay() {
+        BentPicture x = Scene.sized(7, 7);
+        x.insert(5, 4, 5, 4);
+        x.insert(4, 0, 4, 0);
+        x.insert(0, 3, 0, 3);
+        x.insert(1, 1, 1, 1);
+        x.move(4, 5, 2);
+        x.move(7, 4, 2);
+        return x;
+    }
+
     private static int[] bents(BentPicture x) {
         int[] all = new int[9];
         for (int t = 0; t < all.length; t++) {
@@ -163,6 +185,11 @@ final class WouldBeBoundsTest {
         doc.says("Promise 28", "How many TRIANGLES are BENT ON THE WAY t.");
         doc.all("folded on the way", bents(foldedOnTheWay()), 0, 0, 1, 1, 1, 1, 1, 0, 0);
         doc.all("flat on the way", bents(flatOnTheWay()), 0, 0, 1, 0, 0, 0, 0, 0, 0);
+        doc.all("an area of 1 is above 0", bents(thinOnTheWay()), 0, 0, 0, 0, 0, 0, 0, 0, 0);
+        doc.all("the thin one", Scene.knots(thinOnTheWay(), 4), 2, 5, 4);
+        doc.due("it was moved", thinOnTheWay().count(6), 2);
+        doc.all("the first triangle", bents(firstFoldedOnTheWay()), 0, 0, 0, 1, 1, 0, 0, 0, 0);
+        doc.all("its knots", Scene.knots(firstFoldedOnTheWay(), 0), 0, 4, 7);
         doc.all("at first", bents(Scene.first()), 0, 0, 0, 0, 0, 0, 0, 0, 0);
         doc.all("one knot alone never folds", bents(Scene.middle()), 0, 0, 0, 0, 0, 0, 0, 0, 0);
         doc.stays("t 4", WouldBeBoundsTest::foldedOnTheWay, x -> x.bent(4), 1);
@@ -198,6 +225,14 @@ final class WouldBeBoundsTest {
         x.move(4, 1, 1);
         doc.all("two are as great: the last two", stretches(x), 2, 0, 3, 2, 1, 2);
         doc.all("7 by 1, 1 by 3", stretches(Scene.twist()), 1, 3, 7, 1, 1, 3);
+        BentPicture close = Scene.sized(3, 6);
+        close.insert(0, 4, 0, 3);
+        close.insert(1, 3, 1, 3);
+        doc.all("2 by 3 is less than 3 by 4", stretches(close), 3, 4, 2, 1, 2, 3);
+        close.size(3, 6);
+        close.insert(2, 4, 2, 1);
+        close.insert(1, 2, 1, 1);
+        doc.all("4 is more than 3", stretches(close), 4, 3, 4, 1, 1, 4);
         BentPicture far = Scene.sized(20, 20);
         far.insert(2, 1, 18, 17);
         doc.all("323 by 19, 19 by 323", stretches(far), 0, 3, 17, 1, 1, 17);
