@@ -142,6 +142,32 @@ final class ActsTermsTest {
         doc.due("29 is none", rim.knot(29, 0), -1);
         outWithOthersBent();
         outWithNeighboursBehind();
+        inAndOut();
+    }
+
+    /** A knot that comes and goes at once leaves nothing behind: within a triangle, on a side. */
+    private static void inAndOut() {
+        inAndOutOf(Scene::first, 5, 4);
+        inAndOutOf(Scene::middle, 5, 5);
+        inAndOutOf(Scene::sides, 7, 6);
+        inAndOutOf(Scene::twist, 5, 6);
+        inAndOutOf(ActsTermsTest::inner, 9, 9);
+        inAndOutOf(ActsTermsTest::movedInner, 9, 9);
+    }
+
+    private static void inAndOutOf(Supplier<BentPicture> scene, int w, int h) {
+        int next = scene.get().count(2);
+        for (int d = 0; d < w * h; d++) {
+            int homeX = d % w;
+            int homeY = d / w;
+            int[] to = Scene.to(scene.get(), homeX, homeY);
+            BentPicture x = scene.get();
+            boolean comes = to[2] == 1 && x.insert(homeX, homeY, to[0], to[1]) == next;
+            if (comes && x.knot(next, 4) == (x.knot(next, 5) == 1 ? 2 : 3)) {
+                doc.stays("in and out at " + homeX + ", " + homeY, scene,
+                    p -> p.insert(homeX, homeY, to[0], to[1]) * 10 + p.out(next), next * 10);
+            }
+        }
     }
 
     /** 9 by 9, the knots 4, 5, 6 within have a triangle of their own; 4 is of that, of 0, 5, 4 and of 0, 4, 6 alone. */

@@ -1,6 +1,8 @@
 import java.io.IOException;
 import java.math.BigInteger;
 import java.util.Arrays;
+import java.util.List;
+import java.util.function.Supplier;
 
 /** The bounds that the promises 1 to 5 name, sentence by sentence: the object, its size, its values. */
 final class PictureBoundsTest {
@@ -63,6 +65,14 @@ final class PictureBoundsTest {
             doc.due("size(" + s[0] + ", " + s[1] + ")", x.size(s[0], s[1]), true);
             isAtFirst(x, s[0], s[1]);
         }
+        List<Supplier<BentPicture>> scenes = List.of(Scene::first, Scene::middle, Scene::sides, Scene::twist,
+            Scene::thirty, Scene::rim);
+        for (Supplier<BentPicture> scene : scenes) {
+            for (int[] s : sizes) {
+                boolean same = Arrays.equals(Scene.look(() -> resized(scene, s)), Scene.look(() -> Scene.sized(s[0], s[1])));
+                doc.due("as a new object of " + s[0] + " by " + s[1], same, true);
+            }
+        }
         BentPicture x = Scene.sized(20, 20);
         x.weave(1);
         doc.due("smaller", x.size(2, 2), true);
@@ -73,6 +83,13 @@ final class PictureBoundsTest {
         doc.due("the size that it has, 30 knots", full.size(20, 20), true);
         isAtFirst(full, 20, 20);
         doc.due("the next knot is number 4 again", full.insert(9, 8, 9, 8), 4);
+    }
+
+    private static BentPicture resized(Supplier<BentPicture> scene, int[] size) {
+        BentPicture x = scene.get();
+        x.nearest(0, 0);
+        x.size(size[0], size[1]);
+        return x;
     }
 
     private static void sizeRefused() {

@@ -155,6 +155,8 @@ final class Scene {
         }
         lookAtKnots(scene.get(), seen);
         lookAtTriangles(scene.get(), seen);
+        lookAtEdges(scene.get(), seen);
+        lookAtWhatWouldBe(scene.get(), seen);
         for (int y = 0; y < h; y++) {
             lookAtRow(scene.get(), w, y, seen);
         }
@@ -175,6 +177,32 @@ final class Scene {
                 seen.add(x.triangle(t, what));
             }
         }
+    }
+
+    private static void lookAtEdges(BentPicture x, List<Integer> seen) {
+        int knots = x.count(2);
+        for (int one = 0; one < knots; one++) {
+            for (int other = one + 1; other < knots; other++) {
+                seen.add(x.edge(one, other, 3));
+            }
+        }
+    }
+
+    private static void lookAtWhatWouldBe(BentPicture x, List<Integer> seen) {
+        for (int k = 0; k <= x.count(2); k++) {
+            seen.add(x.room(k, BentPicture.NONE));
+            seen.add(x.room(k, 0));
+            seen.add(x.reach(k, 1, 0));
+            seen.add(x.reach(k, 0, -1));
+        }
+        for (int t = 0; t <= 8; t++) {
+            seen.add(x.bent(t));
+        }
+        for (int what = 0; what <= 5; what++) {
+            seen.add(x.stretch(what));
+        }
+        seen.add(x.lost());
+        seen.add(x.loops());
     }
 
     private static void lookAtRow(BentPicture x, int w, int y, List<Integer> seen) {
