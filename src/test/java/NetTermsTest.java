@@ -30,7 +30,6 @@ final class NetTermsTest {
         fold();
         neverAFold();
         coverByPlaces();
-        calls512();
         doc.end(SECTION);
     }
 
@@ -384,18 +383,5 @@ final class NetTermsTest {
             }
             doc.due("dots that lie in none", nowhere, 0);
         }
-    }
-
-    /** Not of the terms, but what the document says ahead of them: up to 512 calls are answered. */
-    private static void calls512() {
-        doc.says("What it is", "An object is used for at most 512 calls after it has been made; what later calls answer is "
-            + "free.");
-        BentPicture x = Scene.first();
-        x.insert(2, 1, 2, 1);
-        for (int i = 0; i < 255; i++) {
-            doc.due("there", x.move(4, 3, 1), 0);
-            doc.due("and back", x.move(4, 2, 1), 0);
-        }
-        doc.due("the 512th call", x.knot(4, 2), 2);
     }
 }

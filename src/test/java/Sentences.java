@@ -88,6 +88,13 @@ final class Sentences {
         answers = 0;
     }
 
+    /** What is looked at from here on is what this section shows, which is no sentence. */
+    void shows(String section) {
+        closeSentence();
+        now = section + ": ";
+        answers = 0;
+    }
+
     private void closeSentence() {
         check.due(now + "something was looked at", answers > 0, true);
     }
